@@ -1,16 +1,26 @@
 /** What the tests share: each answer is held against the one that is due. */
 final class Check {
+    private static final int MOST_TOLD = 100;
+
     private static int wrong = 0;
     private static int looked = 0;
+    private static String sentence = "";
 
     private Check() {
+    }
+
+    /** The document's words that the answers to come are held against; a wrong one is told with them. */
+    static void sentence(String words) {
+        sentence = words;
     }
 
     static void due(String call, long got, long want) {
         looked++;
         if (got != want) {
             wrong++;
-            System.out.println(call + " answered " + got + ", due is " + want);
+            if (wrong <= MOST_TOLD) {
+                System.out.println("[" + sentence + "] " + call + " answered " + got + ", due is " + want);
+            }
         }
     }
 
@@ -19,7 +29,7 @@ final class Check {
     }
 
     /** A column's entries, three numbers each: repetition level, definition level, value. */
-    static void entries(Striping x, int column, int... want) {
+    static void entries(Counted x, int column, int... want) {
         due("entries(" + column + ")", x.entries(column), want.length / 3);
         for (int i = 0; i < want.length; i++) {
             due("entry(" + column + ", " + i / 3 + ", " + i % 3 + ")", x.entry(column, i / 3, i % 3), want[i]);
@@ -28,13 +38,17 @@ final class Check {
     }
 
     /** A record's events, without their values. */
-    static void events(Striping x, int record, int low, int high, int... want) {
-        String call = "assemble(" + record + ", " + low + ", " + high + ")";
-        due(call, x.assemble(record, low, high), want.length);
+    static void events(Counted x, int record, int low, int high, int... want) {
+        due("assemble(" + record + ", " + low + ", " + high + ")", x.assemble(record, low, high), want.length);
+        eventsNow(x, want);
+    }
+
+    /** The events as they stand, without their values. */
+    static void eventsNow(Counted x, int... want) {
         for (int i = 0; i < want.length; i++) {
-            due(call + " event(" + i + ", 0)", x.event(i, 0), want[i]);
+            due("event(" + i + ", 0)", x.event(i, 0), want[i]);
         }
-        due(call + " event behind the last", x.event(want.length, 0), Striping.NONE);
+        due("event behind the last", x.event(want.length, 0), Striping.NONE);
     }
 
     static void end() {

@@ -1,183 +1,137 @@
-/** Promises 11 (entries) and 12 (entry): how records are taken apart. */
+/** Promise 12: entry. How entries come is looked at in TakenApartTest. */
 public final class EntryTest {
     private static final int NONE = Striping.NONE;
 
     public static void main(String[] args) {
-        kindsOfLeaves();
-        repeatedInRepeated();
-        requiredGroupsInOptional();
-        deepest();
-        valuesOf32Bits();
-        wrongArguments();
+        levelsAndValue();
+        valueIs0IfItHasNone();
+        noSuchColumn();
+        noSuchEntry();
+        noSuchEntryAsTheRowGrows();
+        schemaIsntReady();
+        openRecordHasNone();
+        anotherWhat();
+        entryChangesNothing();
         Check.end();
     }
 
-    private static void kindsOfLeaves() {
-        Striping x = new Striping();
-        x.field(-1, 0, false);
-        x.field(-1, 1, false);
-        x.field(-1, 2, false);
-        x.ready();
-        x.begin();
-        x.leaf(0, 5);
-        x.close();
-        x.begin();
-        x.leaf(0, 6);
-        x.leaf(1, 7);
-        x.leaf(2, 8);
-        x.leaf(2, 9);
-        x.leaf(2, 10);
-        x.close();
-        Check.entries(x, 0, 0, 0, 5, 0, 0, 6);
-        Check.entries(x, 1, 0, 0, 0, 0, 1, 7);
-        Check.entries(x, 2, 0, 0, 0, 0, 1, 8, 1, 1, 9, 1, 1, 10);
+    private static void levelsAndValue() {
+        Check.sentence("An entry's REPETITION level (0), DEFINITION level (1), value (2)");
+        Counted x = Made.ready("?( * )");
+        Made.record(x, "0( 1=30 1=31 )");
+        Check.due("entry(0, 1, 0)", x.entry(0, 1, 0), 1);
+        Check.due("entry(0, 1, 1)", x.entry(0, 1, 1), 2);
+        Check.due("entry(0, 1, 2)", x.entry(0, 1, 2), 31);
+        Check.due("entry(0, 0, 0)", x.entry(0, 0, 0), 0);
+        Check.due("entry(0, 0, 2)", x.entry(0, 0, 2), 30);
     }
 
-    /** Lists of lists of lists: the level is of the outermost one that goes on. */
-    private static void repeatedInRepeated() {
-        Striping x = new Striping();
-        x.field(-1, 2, true);
-        x.field(0, 2, true);
-        x.field(1, 2, false);
-        x.field(0, 1, false);
-        x.ready();
-        x.begin();
-        x.open(0);
-        x.open(1);
-        x.leaf(2, 1);
-        x.leaf(2, 2);
-        x.close();
-        x.open(1);
-        x.close();
-        x.open(1);
-        x.leaf(2, 3);
-        x.close();
-        x.close();
-        x.open(0);
-        x.leaf(3, 4);
-        x.close();
-        x.open(0);
-        x.open(1);
-        x.leaf(2, 5);
-        x.close();
-        x.close();
-        x.close();
-        x.begin();
-        x.close();
-        Check.entries(x, 0, 0, 3, 1, 3, 3, 2, 2, 2, 0, 2, 3, 3, 1, 1, 0, 1, 3, 5, 0, 0, 0);
-        Check.entries(x, 1, 0, 1, 0, 1, 2, 4, 1, 1, 0, 0, 0, 0);
-        Check.events(x, 0, 3, 0, 0, 2, 4, 4, 3, 2, 3, 2, 4, 3, 1, 0, 6, 1, 0, 2, 4, 3, 1);
-        Check.events(x, 0, 2, 0, 0, 1, 0, 6, 1, 0, 1);
-        Check.events(x, 1, 3, 0);
+    /** Values that were dropped or refused, or stood there before, don't shine through. */
+    private static void valueIs0IfItHasNone() {
+        Check.sentence("0 if it has none");
+        Counted x = Made.ready("? *( * )");
+        Made.record(x, "0=-1 1( 2=-1 )");
+        Made.openRecord(x, "0=-2 1( 2=-2 )");
+        x.drop();
+        Made.record(x, "1( )");
+        Check.entries(x, 0, 0, 1, -1, 0, 0, 0);
+        Check.entries(x, 1, 0, 2, -1, 0, 1, 0);
+        Made.record(x, "");
+        Check.due("of a record without any", x.entry(1, 2, 2), 0);
+        Check.due("its definition level", x.entry(1, 2, 1), 0);
     }
 
-    private static void requiredGroupsInOptional() {
-        Striping x = new Striping();
-        x.field(-1, 1, true);
-        x.field(0, 0, true);
-        x.field(1, 0, true);
-        x.field(2, 2, false);
-        x.field(2, 0, false);
-        x.ready();
-        x.begin();
-        x.close();
-        x.begin();
-        x.open(0);
-        x.open(1);
-        x.open(2);
-        x.leaf(4, 11);
-        x.close();
-        x.close();
-        x.close();
-        x.close();
-        Check.entries(x, 0, 0, 0, 0, 0, 1, 0);
-        Check.entries(x, 1, 0, 0, 0, 0, 1, 11);
-        Check.events(x, 1, 1, 0, 0, 2, 4, 5, 3, 1);
-        Check.events(x, 1, 2, 0, 0, 2, 4, 8, 5, 3, 1);
-    }
-
-    /** 15 groups and a leaf, all REPEATED: each ends twice, from within outwards. */
-    private static void deepest() {
-        Striping x = new Striping();
-        for (int f = 0; f < 16; f++) {
-            x.field(f - 1, 2, f < 15);
-        }
-        x.ready();
-        x.begin();
-        openFrom(x, 0);
-        x.leaf(15, 100);
-        x.leaf(15, 101);
-        for (int f = 14; f >= 0; f--) {
-            for (int g = 14; g >= f; g--) {
-                Check.due("close", x.close(), true);
-            }
-            openFrom(x, f);
-            x.leaf(15, f);
-        }
-        for (int f = 15; f >= 0; f--) {
-            Check.due("close at the end", x.close(), true);
-        }
-        Check.due("entries of the deepest", x.entries(0), 17);
-        for (int k = 0; k < 17; k++) {
-            Check.due("repetition " + k, x.entry(0, k, 0), k == 0 ? 0 : 17 - k);
-            Check.due("definition " + k, x.entry(0, k, 1), 16);
-            Check.due("value " + k, x.entry(0, k, 2), k < 2 ? 100 + k : 16 - k);
-        }
-        Check.due("events of the deepest", x.assemble(0, 1, 0), 17 + 2 * (15 + 15 * 16 / 2));
-        Check.due("the first leaf", x.event(15, 1), 100);
-    }
-
-    private static void openFrom(Striping x, int first) {
-        for (int f = first; f < 15; f++) {
-            Check.due("open(" + f + ")", x.open(f), true);
-        }
-    }
-
-    private static void valuesOf32Bits() {
-        int[] values = {0, 1, -1, Integer.MAX_VALUE, Integer.MIN_VALUE, 0x7FFF8000};
-        Striping x = new Striping();
-        x.field(-1, 2, false);
-        x.ready();
-        x.begin();
-        for (int v : values) {
-            x.leaf(0, v);
-        }
-        x.close();
-        Check.due("events", x.assemble(0, 1, 0), values.length);
-        for (int k = 0; k < values.length; k++) {
-            Check.due("entry's value", x.entry(0, k, 2), values[k]);
-            Check.due("event's value", x.event(k, 1), values[k]);
-        }
-    }
-
-    private static void wrongArguments() {
-        Striping x = new Striping();
-        x.field(-1, 0, true);
-        x.field(0, 0, false);
-        x.field(0, 1, false);
-        Check.due("entries before ready", x.entries(0), NONE);
-        Check.due("entry before ready", x.entry(0, 0, 0), NONE);
-        x.ready();
-        Check.due("no entries yet", x.entries(0), 0);
-        Check.due("no entry yet", x.entry(0, 0, 0), NONE);
-        x.begin();
-        x.open(0);
-        x.leaf(1, 9);
-        x.close();
-        x.close();
-        for (int c : new int[] {-1, 2, 47, 48, Integer.MAX_VALUE, Integer.MIN_VALUE}) {
-            Check.due("entries of no column", x.entries(c), NONE);
-            Check.due("entry of no column", x.entry(c, 0, 1), NONE);
-        }
-        for (int k : new int[] {-1, 1, 8, Integer.MAX_VALUE, Integer.MIN_VALUE, 0x55555556, 0x2AAAAAAB}) {
+    private static void noSuchColumn() {
+        Check.sentence("NONE if there is none such: column");
+        Counted x = Made.ready("! ?( ! )");
+        Made.record(x, "0=1 1( 2=2 )");
+        for (int c : Made.outside(2)) {
             for (int what = 0; what < 3; what++) {
-                Check.due("no such entry", x.entry(0, k, what), NONE);
+                Check.due("entry(" + c + ", 0, " + what + ")", x.entry(c, 0, what), NONE);
             }
         }
-        for (int what : new int[] {-1, 3, Integer.MAX_VALUE, Integer.MIN_VALUE}) {
-            Check.due("entry of another what", x.entry(0, 0, what), NONE);
+        Check.due("entry(1, 0, 2)", x.entry(1, 0, 2), 2);
+    }
+
+    private static void noSuchEntry() {
+        Check.sentence("NONE if there is none such: entry");
+        Counted x = Made.ready("! *");
+        Check.due("without records", x.entry(0, 0, 0), NONE);
+        Check.due("without records, the last column", x.entry(1, 0, 1), NONE);
+        Made.record(x, "0=1 1=2 1=3 1=4");
+        for (int what = 0; what < 3; what++) {
+            for (int k : Made.outside(1)) {
+                Check.due("entry(0, " + k + ", " + what + ")", x.entry(0, k, what), NONE);
+            }
+            for (int k : Made.outside(3)) {
+                Check.due("entry(1, " + k + ", " + what + ")", x.entry(1, k, what), NONE);
+            }
         }
-        Check.entries(x, 0, 0, 0, 9);
-        Check.entries(x, 1, 0, 0, 0);
+        Check.due("the last that there is", x.entry(1, 2, 2), 4);
+        Check.due("the first that there is", x.entry(1, 0, 2), 2);
+    }
+
+    private static void noSuchEntryAsTheRowGrows() {
+        Check.sentence("NONE if there is none such: right behind the last of 1 to 100");
+        Counted x = Made.ready("?");
+        for (int n = 1; n <= 100; n++) {
+            Made.record(x, "");
+            Check.due("entry(0, " + (n - 1) + ", 1)", x.entry(0, n - 1, 1), 0);
+            Check.due("entry(0, " + n + ", 1)", x.entry(0, n, 1), NONE);
+        }
+    }
+
+    private static void schemaIsntReady() {
+        Check.sentence("NONE if there is none such: before READY");
+        Counted x = Made.fields("! *");
+        for (int what = 0; what < 3; what++) {
+            Check.due("entry(0, 0, " + what + ")", x.entry(0, 0, what), NONE);
+            Check.due("entry(1, 0, " + what + ")", x.entry(1, 0, what), NONE);
+        }
+        Check.due("on a new object", new Counted().entry(0, 0, 0), NONE);
+    }
+
+    private static void openRecordHasNone() {
+        Check.sentence("NONE if there is none such: an open or dropped record has none");
+        Counted x = Made.ready("*");
+        Made.openRecord(x, "0=1 0=2");
+        Check.due("open", x.entry(0, 0, 2), NONE);
+        x.drop();
+        Check.due("dropped", x.entry(0, 0, 2), NONE);
+        Made.record(x, "0=3");
+        Made.openRecord(x, "0=4");
+        Check.due("closed", x.entry(0, 0, 2), 3);
+        Check.due("open behind it", x.entry(0, 1, 2), NONE);
+    }
+
+    private static void anotherWhat() {
+        Check.sentence("NONE for another what");
+        Counted x = Made.ready("! *");
+        Made.record(x, "0=1 1=2 1=3");
+        for (int what : Made.outside(3)) {
+            Check.due("entry(0, 0, " + what + ")", x.entry(0, 0, what), NONE);
+            Check.due("entry(1, 0, " + what + ")", x.entry(1, 0, what), NONE);
+            Check.due("entry(1, 1, " + what + ")", x.entry(1, 1, what), NONE);
+            Check.due("entry(2, 2, " + what + ")", x.entry(2, 2, what), NONE);
+        }
+    }
+
+    private static void entryChangesNothing() {
+        Check.sentence("An entry that is NONE changes no later answer");
+        Counted x = Made.fields("*");
+        x.entry(0, 0, 0);
+        Check.due("ready()", x.ready(), 1);
+        Made.record(x, "0=1");
+        x.assemble(0, 1, 0);
+        Made.openRecord(x, "0=2");
+        x.entry(0, 1, 0);
+        x.entry(1, 0, 0);
+        x.entry(0, 0, 3);
+        x.entry(Made.MIN, Made.MAX, Made.MIN);
+        x.entry(Made.MAX, Made.MIN, Made.MAX);
+        Check.eventsNow(x, 0);
+        Made.steps(x, "0=3");
+        Check.due("the record's end", x.close(), true);
+        Check.entries(x, 0, 0, 1, 1, 0, 1, 2, 1, 1, 3);
     }
 }

@@ -15,7 +15,6 @@ public final class HostileTest {
         for (int seed = 0; seed < 200; seed++) {
             anyCalls(new Random(seed));
         }
-        manyLeaves();
         manyEntries();
         manyDeepGroups();
         Check.end();
@@ -48,32 +47,6 @@ public final class HostileTest {
 
     private static int edge(Random dice) {
         return dice.nextInt(3) == 0 ? dice.nextInt() : EDGES[dice.nextInt(EDGES.length)];
-    }
-
-    private static void manyLeaves() {
-        Striping x = new Striping();
-        x.field(-1, 2, false);
-        x.ready();
-        for (int n = 0; n < 2; n++) {
-            x.begin();
-            for (int v = 0; v < 1024; v++) {
-                Check.due("leaf", x.leaf(0, v), true);
-            }
-            if (n == 0) {
-                x.close();
-            }
-        }
-        Check.due("leaf 2049", x.leaf(0, 1), false);
-        Check.due("drop gives its 1024 back", x.drop(), true);
-        x.begin();
-        for (int v = 0; v < 1024; v++) {
-            Check.due("leaf", x.leaf(0, -v), true);
-        }
-        Check.due("leaf 2049 again", x.leaf(0, 1), false);
-        Check.due("close", x.close(), true);
-        Check.due("entries", x.entries(0), 2048);
-        Check.due("events", x.assemble(1, 1, 0), 1024);
-        Check.due("last event", x.event(1023, 1), -1023);
     }
 
     /** The most entries that the limits leave room for: 47 columns in a group that comes 2048 times. */

@@ -53,6 +53,21 @@ final class Model {
         return fields.size() - 1;
     }
 
+    /** The parents that a field may have now. */
+    List<Integer> parents() {
+        List<Integer> all = new ArrayList<>(List.of(-1));
+        for (int f : fields.isEmpty() ? List.<Integer>of() : wayTo(fields.size() - 1)) {
+            if (fields.get(f).group && wayTo(f).size() < 16) {
+                all.add(f);
+            }
+        }
+        return all;
+    }
+
+    boolean isGroup(int field) {
+        return fields.get(field).group;
+    }
+
     /** The field and the groups around it, the outermost first. */
     private List<Integer> wayTo(int field) {
         List<Integer> way = new ArrayList<>();
@@ -113,25 +128,7 @@ final class Model {
     }
 
     private Occurrence occur(int field, int value, boolean group) {
-        if (record == null || field < 0 || field >= fields.size()) {
-            return null;
-        }
-        Field f = fields.get(field);
-        if (f.group != group || f.parent != open.field) {
-            return null;
-        }
-        for (int g = 0; g < fields.size(); g++) {
-            if (fields.get(g).parent != open.field) {
-                continue;
-            }
-            if (g < field && fields.get(g).kind == 0 && open.count(g) == 0) {
-                return null;
-            }
-            if (g > field && open.count(g) > 0) {
-                return null;
-            }
-        }
-        if (f.kind != 2 && open.count(field) > 0) {
+        if (!mayCome(field) || fields.get(field).group != group) {
             return null;
         }
         Occurrence o = new Occurrence();
@@ -140,6 +137,35 @@ final class Model {
         o.around = open;
         open.inside.add(o);
         return o;
+    }
+
+    /** The fields of which an occurrence may come now. */
+    List<Integer> next() {
+        List<Integer> all = new ArrayList<>();
+        for (int f = 0; f < fields.size(); f++) {
+            if (mayCome(f)) {
+                all.add(f);
+            }
+        }
+        return all;
+    }
+
+    private boolean mayCome(int field) {
+        if (record == null || field < 0 || field >= fields.size() || fields.get(field).parent != open.field) {
+            return false;
+        }
+        for (int g = 0; g < fields.size(); g++) {
+            if (fields.get(g).parent != open.field) {
+                continue;
+            }
+            if (g < field && fields.get(g).kind == 0 && open.count(g) == 0) {
+                return false;
+            }
+            if (g > field && open.count(g) > 0) {
+                return false;
+            }
+        }
+        return fields.get(field).kind == 2 || open.count(field) == 0;
     }
 
     boolean close() {
