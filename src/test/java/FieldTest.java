@@ -11,6 +11,7 @@ public final class FieldTest {
         parentIsNone();
         parentIsntAGroup();
         parentIsntAroundTheLastField();
+        aGroupThatIsLeftStaysLeft();
         recordAlwaysMayBe();
         sixteenLieInOneAnother();
         sixteenWithALeaf();
@@ -137,6 +138,20 @@ public final class FieldTest {
         Check.due("the record's group is left empty", x.field(-1, 0, true), 10);
         Check.due("and is lost", x.field(9, 0, false), NONE);
         Check.due("the new one isn't", x.field(10, 0, false), 11);
+    }
+
+    private static void aGroupThatIsLeftStaysLeft() {
+        Check.sentence("NONE if the parent isn't the last field or a group around it: however often");
+        Counted x = Made.fields("!( ?( * ) !( *");
+        for (int n = 0; n < 5; n++) {
+            Check.due("in a group that is left", x.field(1, 1, false), NONE);
+            Check.due("a group in it", x.field(1, 1, true), NONE);
+        }
+        Check.due("in the one around the last", x.field(3, 1, false), 5);
+        Check.due("in the outermost", x.field(0, 1, false), 6);
+        Check.due("in the one that was left by it", x.field(3, 1, false), NONE);
+        Check.due("and again", x.field(3, 1, false), NONE);
+        Check.due("ready()", x.ready(), 4);
     }
 
     private static void recordAlwaysMayBe() {

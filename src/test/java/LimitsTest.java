@@ -8,6 +8,7 @@ public final class LimitsTest {
 
     public static void main(String[] args) {
         the512thCallReads();
+        eachCallUpToThe512th();
         the512thCallChanges();
         mostLeavesIn512Calls();
         mostGroupsIn512Calls();
@@ -35,6 +36,30 @@ public final class LimitsTest {
         Check.due("the 511th", x.assemble(127, 1, 0), 1);
         Check.due("the 512th", x.event(0, 1), 127);
         Check.due("calls", x.calls(), 512);
+    }
+
+    private static void eachCallUpToThe512th() {
+        Check.sentence("at most 512 calls: each call, again and again up to the 512th");
+        for (int call = 0; call < 6; call++) {
+            Counted x = Made.ready("?( * )");
+            Made.record(x, "0( 1=7 1=8 )");
+            Check.due("assemble(0, 1, 0)", x.assemble(0, 1, 0), 4);
+            while (x.left() > 0) {
+                switch (call) {
+                    case 0 -> Check.due("records()", x.records(), 1);
+                    case 1 -> Check.due("level(1, 1)", x.level(1, 1), 2);
+                    case 2 -> Check.due("entries(0)", x.entries(0), 2);
+                    case 3 -> Check.due("entry(0, 1, 2)", x.entry(0, 1, 2), 8);
+                    case 4 -> Check.due("assemble(0, 1, 0)", x.assemble(0, 1, 0), 4);
+                    default -> Check.due("event(2, 1)", x.event(2, 1), 8);
+                }
+            }
+        }
+        Counted y = Made.ready("*");
+        while (y.left() > 1) {
+            Check.due("begin()", y.begin(), true);
+            Check.due("drop()", y.drop(), true);
+        }
     }
 
     private static void the512thCallChanges() {

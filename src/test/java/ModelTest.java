@@ -167,12 +167,17 @@ public final class ModelTest {
 
     private void lookOnce() {
         int column = column();
-        switch (dice.nextInt(5)) {
+        switch (dice.nextInt(7)) {
             case 0 -> lookAtLevel();
             case 1 -> same("records()", x.records(), y.records());
             case 2 -> same("entries(" + column + ")", x.entries(column), y.entries(column));
             case 3 -> lookAtEntry(column, oneIn(5) ? edge() : dice.nextInt(Math.max(0, y.entries(column)) + 3) - 1);
-            default -> lookAtEvent(oneIn(5) ? edge() : dice.nextInt(40) - 1);
+            case 4 -> {
+                if (oneIn(4)) {
+                    assemble();
+                }
+            }
+            default -> lookAtEvent(oneIn(5) ? edge() : dice.nextInt(oneIn(3) ? 40 : 6) - 1);
         }
     }
 

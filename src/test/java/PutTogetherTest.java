@@ -5,6 +5,7 @@ public final class PutTogetherTest {
         aGroupBeginsAndEnds();
         inTheirOrder();
         groupsInWhichSuchAFieldLies();
+        groupsInWhichNoneLies();
         emptyGroupsToo();
         groupsWhoseOtherLeavesAreLeftOut();
         aGuideThatIsMissing();
@@ -63,6 +64,18 @@ public final class PutTogetherTest {
         Check.events(x, 0, 8, 0, 10, 10);
         Check.events(x, 0, 9, 0, 0, 10, 10);
         Check.events(x, 0, 12, 0, 2, 3, 2, 6, 8, 8, 7, 3, 2, 6, 7, 3, 10, 10);
+        Check.events(x, 0, 0, 0);
+    }
+
+    private static void groupsInWhichNoneLies() {
+        Check.sentence("of groups in which such a field lies: of no others, whatever their kind");
+        Counted x = Made.ready("!( ! ) ?( !( ! ) ? ) *( ! ) !");
+        Made.record(x, "0( 1=1 ) 2( 3( 4=2 ) 5=3 ) 6( 7=4 ) 6( 7=5 ) 8=6");
+        Check.events(x, 0, 1, 0, 0, 2, 1);
+        Check.events(x, 0, 2, 0, 4, 6, 8, 7, 5);
+        Check.events(x, 0, 4, 0, 4, 10, 5);
+        Check.events(x, 0, 8, 0, 12, 14, 13, 12, 14, 13);
+        Check.events(x, 0, 16, 0, 16);
         Check.events(x, 0, 0, 0);
     }
 

@@ -152,15 +152,18 @@ public final class RefusedCallTest {
         return x;
     }
 
-    /** A refused assemble leaves no events; its twin here has put together none of the columns. */
+    /** Refused or not, assemble changes the events alone; if it is refused, there are none. */
     private void lookAtAssemble() {
-        for (int r : new int[] {Made.MIN, -1, 128, 2, Made.MAX}) {
-            if (state.get().assemble(r, -1, -1) == NONE) {
-                Call call = new Call("assemble(" + r + ", -1, -1)", false, x -> x.assemble(r, -1, -1));
-                Call twin = new Call("assemble(-1, 0, 0)", false, x -> x.assemble(-1, 0, 0));
-                same(call.name, later(() -> with(call)), later(() -> with(twin)));
-                Check.due(name + ": " + call.name + ": event(0, 0)", with(call).event(0, 0), NONE);
-                same(call.name + ", then what stays", withoutEvents(() -> with(call)), withoutEvents(state));
+        int[] stays = withoutEvents(state);
+        for (int r : new int[] {Made.MIN, -1, 0, 1, 2, 127, 128, Made.MAX}) {
+            Call call = new Call("assemble(" + r + ", -1, -1)", false, x -> x.assemble(r, -1, -1));
+            same(call.name, withoutEvents(() -> with(call)), stays);
+            if (call.answer.of(state.get()) == NONE) {
+                Counted x = with(call);
+                for (int k = 0; k < 12; k++) {
+                    Check.due(name + ": behind " + call.name + " event(" + k + ", 0)", x.event(k, 0), NONE);
+                    Check.due(name + ": behind " + call.name + " event(" + k + ", 1)", x.event(k, 1), NONE);
+                }
             }
         }
     }
@@ -187,6 +190,8 @@ public final class RefusedCallTest {
     private List<Call> changes() {
         List<Call> all = new ArrayList<>();
         all.add(new Call("field(-1, 1, false)", false, x -> x.field(-1, 1, false)));
+        all.add(new Call("field(0, 2, false)", false, x -> x.field(0, 2, false)));
+        all.add(new Call("field(1, 1, false)", false, x -> x.field(1, 1, false)));
         all.add(new Call("field(last, 0, true)", false, x -> x.field(fields - 1, 0, true)));
         all.add(new Call("ready()", false, Counted::ready));
         all.add(new Call("begin()", false, x -> bit(x.begin())));
